@@ -85,7 +85,10 @@ public final class ExpansionTest {
         Probe.ran("\\endcsname").fault(1, 10);
         Probe.ran("\\def\\b{c}\\csname a\\csname b\\endcsname d\\endcsname").detail("acd", 0, 2).fine();
         Probe.ran("\\def\\par{x}\\csname par\\endcsname").outs("x").fine();
-        Probe.ran("\\csname expandafter\\endcsname\\string\\relax").outs("\\relax").fine();
+        Probe.ran("\\csname expandafter\\endcsname\\string\\iftrue x\\fi").out(0, 'x', 12).outs("x").fine();
+        Probe.ran("\\def\\abcdefghijk{x}\\csname abcdefghijk\\endcsname").outs("x").fine();
+        Probe.ran("\\def\\Abcdefghijk{x}\\csname abcdefghijk\\endcsname").outs("").fine();
+        Probe.ran("\\def\\bcdefghi{x}\\csname abcdefghi\\endcsname").outs("").fine();
     }
 
     private static void simpleConditionals() {

@@ -106,9 +106,32 @@ public final class FaceTest {
         Probe.check("type after wipe", probe.mouth.type('a') ? 1 : 0, 1);
         probe.run(2, 1).outs("a");
         // The macros' rows are used again: nothing of an earlier run may show.
-        Probe macros = Probe.ran("\\def\\a#1#2.{#1#2xyz}").detail("a", 0, 2).detail("a", 1, 3).detail("a", 2, 5);
-        macros.mouth.wipe();
-        macros.type("\\def\\a{}").runOut().detail("a", 0, 0).detail("a", 1, 0).detail("a", 2, 0).detail("a", 3, -1);
+        Probe macros = Probe.of("");
+        for (int k = 0; k < 5; k++) {
+            macros.mouth.wipe();
+            macros.type("\\def\\a#1#2.{#1#2xyz}").runOut();
+            macros.detail("a", 0, 2).detail("a", 1, 3).detail("a", 2, 5);
+            macros.mouth.wipe();
+            macros.type("\\def\\a{}").runOut();
+            macros.detail("a", 0, 0).detail("a", 1, 0).detail("a", 2, 0).detail("a", 3, -1);
+        }
+        // Nor may the rest of a longer text.
+        Probe shorter = Probe.of("xxxxxxxxxx").run(500, 1);
+        shorter.mouth.wipe();
+        shorter.type("\\relax").run(500, 1).fault(0, 6).outs("");
+        // Faults of the reading and inside of expansions leave nothing behind.
+        Probe forbidden = Probe.of("x\\catcode!15!").runOut().fault(8, 13);
+        forbidden.mouth.again();
+        forbidden.run(2, 0).outs("x").run(1, Probe.STATE).fault(8, 13);
+        Probe nested = Probe.ran("\\expandafter\\string\\csname x\\csname y\\relax").fault(4, 43);
+        nested.mouth.again();
+        nested.runOut().fault(4, 43);
+        Probe chain = Probe.ran("\\let\\e=\\expandafter" + Probe.times(31, "\\e1")).fault(5, 111);
+        chain.mouth.again();
+        chain.runOut().fault(5, 111);
+        Probe kept = Probe.ran("\\let\\o={\\def\\a{\\o\\let\\x=1\\let\\y=2\\let\\z=3\\a}\\a").fault(5).count(2, 21);
+        kept.mouth.again();
+        kept.runOut().fault(5).count(2, 21);
         // Pending tokens are gone, and so is the state of the reading.
         Probe pending = Probe.of("\n\\def\\a{xxxx}\\a").run(4, 0).outs("|x");
         pending.mouth.again();
@@ -180,12 +203,12 @@ public final class FaceTest {
         Probe.check("zeros between", Probe.answer(() -> probe.mouth.meaning(0x7000_6100_7200_0000L, false)), 1);
         Probe.check("one with zeros", Probe.answer(() -> probe.mouth.meaning(0x7E00_0000L, true)), 2);
         Probe.check("all 255", Probe.answer(() -> probe.mouth.meaning(-1, false)), Probe.ELEMENT);
-        Probe.check("asking makes no name known", Probe.answer(() -> {
-            for (int k = 0; k < 200; k++) {
-                probe.mouth.meaning(Probe.pack("q" + k), false);
-            }
-            return probe.mouth.meaning(Probe.pack("q1"), false);
-        }), 0);
+        // Asking makes no name known.
+        Probe asked = Probe.of("\\let\\x=y\\x");
+        for (int k = 0; k < 200; k++) {
+            asked.meaning("q" + k, 0);
+        }
+        asked.run(500, 1).outs("y");
     }
 
     private static void details() {

@@ -16,6 +16,7 @@ public final class GroupTest {
         Probe.ran("\\let\\o={\\let\\c=}\\o\\let\\x=1\\x}\\x").fault(2).outs("1").count(2, 0);
         Probe.ran("{\\let\\x=1{\\let\\x=2\\let\\x=3\\x}\\x}\\ifx\\x\\undefd y\\fi").outs("31y").fine();
         Probe.ran("{{\\let\\x=1}\\let\\x=2{\\let\\x=3}\\x}").outs("2").meaning("x", 0).fine();
+        Probe.ran("{\\let\\par=x\\par}\\par").outs("x|").fine();
         Probe.ran("{\\let\\fi=\\relax}\\iftrue\\fi").count(3, 0).detail("fi", 0, 18).fine();
         // A group doesn't keep macros from being counted, nor conditionals open.
         Probe.ran("{\\def\\a{}\\iftrue}").count(4, 1).count(3, 1).count(2, 0).fine();
@@ -56,6 +57,7 @@ public final class GroupTest {
         Probe.ran("\\catcode! 4").fault(4, 10);
         Probe.ran("\\catcode\\ab4").fault(4, 11);
         Probe.ran("\\catcode\\fi4").fault(4, 11);
+        Probe.ran("\\catcode\\par4").fault(4, 12);
         Probe.ran("\\catcode311\\catcode!3").fault(4, 21).outs("");
         Probe.ran("\\let\\x=3\\catcode!\\x").fault(4);
         Probe.ran("\\catcode311\\catcode!13").category('!', 1).outs("3").fine();

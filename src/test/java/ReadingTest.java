@@ -72,6 +72,7 @@ public final class ReadingTest {
         Probe.ran("$&#^_1.").outs("$&#^_1.").out(0, '$', 3).out(1, '&', 4).out(2, '#', 6).out(3, '^', 7)
                 .out(4, '_', 8).out(5, '1', 12).fine();
         Probe.ran("~").fault(2, 1);
+        Probe.ran("\\let~=x\\relax~ a\n~\nb").outs("x a x b").fine();
         Probe.ran("\\catcode!15a!b").fault(8, 13).outs("a").count(1, 3);
         Probe.ran("\\catcode!15{\\iffalse !").fault(8, 22).count(2, 1).count(3, 1);
         Probe.ran("\\catcode!15\\def\\a#1{}\\a!").fault(8, 24);
