@@ -62,7 +62,7 @@ public final class TokenMouth {
     private static final int BLANK = ' ' + 256 * SPACING;
     private static final int EQUALS = '=' + 256 * OTHER;
     private static final int PAR_NAME = NAME;
-    private static final int PAR_OUT = 4096;
+    private static final int NAME_OUT = 4096;
 
     private static final int NOTHING = 0;
     private static final int PAR = 1;
@@ -84,6 +84,7 @@ public final class TokenMouth {
     private static final int ELSE = 17;
     private static final int FI = 18;
     private static final int COMMANDS = 18;
+    /** In the order of their places, a blank behind each. */
     private static final String COMMAND_NAMES =
             "par relax def gdef edef let catcode expandafter noexpand csname endcsname string if ifx iftrue iffalse else fi ";
     private static final int MACRO = 4096;
@@ -230,9 +231,9 @@ public final class TokenMouth {
         }
         int token = macro.body.at(what - 3);
         if (token >= PARAMETER) {
-            return 4096 + (token - PARAMETER);
+            return NAME_OUT + (token - PARAMETER);
         }
-        return token >= NAME ? 4096 : token;
+        return token >= NAME ? NAME_OUT : token;
     }
 
     private void startAnew() {
@@ -395,7 +396,7 @@ public final class TokenMouth {
         }
         switch (meaning) {
             case PAR:
-                putOut(PAR_OUT);
+                putOut(NAME_OUT);
                 break;
             case RELAX:
                 break;
