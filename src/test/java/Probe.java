@@ -13,6 +13,7 @@ final class Probe {
 
     final TokenMouth mouth = new TokenMouth();
     private String typed = "";
+    private int calls;
 
     /** A mouth with this text. */
     static Probe of(String text) {
@@ -24,13 +25,28 @@ final class Probe {
         return of(text).runOut();
     }
 
+    /** What the mouth answers after its 512th call is free, so no test may ask for it. */
+    private void called() {
+        calls++;
+        if (calls == 513) {
+            check(typed + ": calls of one object", calls, 512);
+        }
+    }
+
     Probe type(String text) {
         for (int k = 0; k < text.length(); k += 8) {
             String piece = text.substring(k, Math.min(text.length(), k + 8));
+            called();
             due("type " + piece, mouth.type(pack(piece)) ? 1 : 0, 1);
         }
         typed = typed + text;
         return this;
+    }
+
+    /** The mouth takes none of this text. */
+    Probe refuses(String text) {
+        called();
+        return due(typed + ": type " + text, mouth.type(pack(text)) ? 1 : 0, 0);
     }
 
     Probe runOut() {
@@ -43,7 +59,13 @@ final class Probe {
         return this;
     }
 
+    /** Runs to the end and answers how many steps that took. */
+    int runSteps() {
+        return runOut().mouth.count(1);
+    }
+
     int run(int n) {
+        called();
         return answer(() -> mouth.run(n));
     }
 
@@ -55,16 +77,20 @@ final class Probe {
     /** The tokens that are out: a character as itself, par as |. */
     Probe outs(String want) {
         StringBuilder outs = new StringBuilder();
-        for (int k = 0; k < mouth.count(0); k++) {
+        called();
+        int size = mouth.count(0);
+        for (int k = 0; k < size; k++) {
+            called();
             int token = mouth.out(k);
             outs.append(token == 4096 ? '|' : (char) (token % 256));
         }
         dueText(typed + ": out", outs.toString(), want);
-        due(typed + ": out(count)", answer(() -> mouth.out(mouth.count(0))), INDEX);
-        return this;
+        called();
+        return due(typed + ": out(count)", answer(() -> mouth.out(size)), INDEX);
     }
 
     Probe out(int k, int code, int category) {
+        called();
         return due(typed + ": out(" + k + ")", answer(() -> mouth.out(k)), code + 256 * category);
     }
 
@@ -74,32 +100,45 @@ final class Probe {
     }
 
     Probe fault(int kind) {
+        called();
         return due(typed + ": fault(0)", mouth.fault(0), kind);
     }
 
     Probe fault(int kind, int place) {
         fault(kind);
+        called();
         return due(typed + ": fault(1)", mouth.fault(1), place);
     }
 
     Probe count(int what, int want) {
+        called();
         return due(typed + ": count(" + what + ")", answer(() -> mouth.count(what)), want);
     }
 
     Probe category(int c, int want) {
+        called();
         return due(typed + ": category(" + c + ")", answer(() -> mouth.category(c)), want);
     }
 
     Probe meaning(String name, int want) {
+        called();
         return due(typed + ": meaning " + name, answer(() -> mouth.meaning(pack(name), false)), want);
     }
 
     Probe activeMeaning(String name, int want) {
+        called();
         return due(typed + ": active meaning " + name, answer(() -> mouth.meaning(pack(name), true)), want);
     }
 
     Probe detail(String name, int what, int want) {
+        called();
         return due(typed + ": detail " + name + " " + what, answer(() -> mouth.detail(pack(name), false, what)), want);
+    }
+
+    Probe activeDetail(String name, int what, int want) {
+        called();
+        return due(typed + ": active detail " + name + " " + what,
+                answer(() -> mouth.detail(pack(name), true, what)), want);
     }
 
     static long pack(String text) {
