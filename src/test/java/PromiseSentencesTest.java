@@ -4,6 +4,8 @@ public final class PromiseSentencesTest {
     private static final int OTHER = 12;
 
     public static void main(String[] args) {
+        atMost512Calls();
+        constants();
         aNewObject();
         typeAppendsUpToEight();
         typeFromTheHighestByteOn();
@@ -64,6 +66,28 @@ public final class PromiseSentencesTest {
                 probe.detail(commands[k], 0, k + 1);
             }
         }
+    }
+
+    /** "An object is used for at most 512 calls": the last of them is answered like the first. */
+    private static void atMost512Calls() {
+        TokenMouth mouth = new TokenMouth();
+        for (int k = 0; k < 128; k++) {
+            mouth.wipe();
+            Probe.check("type " + k, mouth.type(Probe.pack("\\def~{1}")) ? 1 : 0, 1);
+            Probe.check("run " + k, Probe.answer(() -> mouth.run(500)), 1);
+            Probe.check("detail " + k, Probe.answer(() -> mouth.detail('~', true, 3)), '1' + 256 * OTHER);
+        }
+        // As many steps as all calls together can ask for.
+        Probe endless = Probe.of("\\def\\a{\\a}\\a");
+        for (int k = 1; k <= 508; k++) {
+            endless.run(500, 0);
+        }
+        endless.count(1, 508 * 500).fault(0);
+    }
+
+    /** "The constants: NONE = -1". */
+    private static void constants() {
+        Probe.check("NONE", TokenMouth.NONE, -1);
     }
 
     /** Promise 1: "An empty text; the run is at its beginning." */
