@@ -340,9 +340,8 @@ public final class TokenMouth {
         return first.text.sameAs(second.text) && first.body.sameAs(second.body);
     }
 
-    /** The code that if compares; a token that means no character has one that no character has. */
-    private int codeOf(int token) {
-        int meaning = meaningOf(token);
+    /** The code that if compares; what is no character has one that no character has. */
+    private static int codeOf(int meaning) {
         return isCharacter(meaning) ? meaning & 255 : 256;
     }
 
@@ -606,7 +605,11 @@ public final class TokenMouth {
                 markNext();
                 break;
             case CSNAME:
-                makeName();
+                int name = makeName();
+                if (meaningOf(name) == NOTHING) {
+                    change(name, RELAX);
+                }
+                putBack(name);
                 break;
             case STRING:
                 spell();
@@ -720,7 +723,8 @@ public final class TokenMouth {
         putBack(isExpandable(meaningOf(token)) ? token | MARK : token);
     }
 
-    private void makeName() {
+    /** The name of the characters up to endcsname. */
+    private int makeName() {
         long head = 0;
         long tail = 0;
         int token = getExpanded();
@@ -739,13 +743,7 @@ public final class TokenMouth {
             fail(UNFIT);
         }
         int name = names.find(head, tail, true);
-        if (name == NONE) {
-            fail(TOO_MANY);
-        }
-        if (names.meaningAt(name) == NOTHING) {
-            change(NAME + name, RELAX);
-        }
-        putBack(NAME + name);
+        return name == NONE ? fail(TOO_MANY) : NAME + name;
     }
 
     private void spell() {
@@ -785,8 +783,8 @@ public final class TokenMouth {
         int level = conditionals.size();
         boolean holds = command == IFTRUE;
         if (command == IF) {
-            int code = codeOf(getExpanded());
-            holds = code == codeOf(getExpanded());
+            int code = codeOf(meaningOf(getExpanded()));
+            holds = code == codeOf(meaningOf(getExpanded()));
         } else if (command == IFX) {
             int meaning = meaningOf(get(true));
             holds = meanTheSame(meaning, meaningOf(get(true)));
@@ -884,8 +882,8 @@ public final class TokenMouth {
         }
 
         boolean holds(int item, int from, int to) {
-            for (int k = from; k < to; k++) {
-                if (at(k) == item) {
+            for (int k = Math.max(from, 0); k < to && k < size && k < items.length; k++) {
+                if (items[k] == item) {
                     return true;
                 }
             }
